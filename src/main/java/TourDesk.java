@@ -143,8 +143,8 @@ public final class TourDesk {
         if (without == NONE) {
             return MAX_LENGTH;
         }
-        // The link's own length is no part of `without` and the same part of every cost behind `with`,
-        // so the link stays in a best tour as long as the rest of the tour and the link reach `without` at most.
+        // Another length of this link leaves `without` as it is and moves every tour with the link by the same amount,
+        // so the link is in a best tour as long as it and the rest of the tour cost no more than `without`.
         int slot = slotOf(a, b);
         int restOfTour = with - lengths[slot];
         int greatest = without - restOfTour;
